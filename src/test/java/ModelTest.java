@@ -5,7 +5,7 @@ import java.util.TreeMap;
 public final class ModelTest {
     private static final int RUNS = 4000;
     /** An object is used for 512 calls; each step here is one or two, seen() and digest(). */
-    private static final int STEPS = 120;
+    private static final int STEPS = 110;
     private static final int[] EDGES = {Integer.MIN_VALUE, -65, -2, -1, 0, 1, 63, 64, 65, 511, 512, 1535, 1536,
         Integer.MAX_VALUE};
 
@@ -175,10 +175,23 @@ public final class ModelTest {
         if (yes) met.merge(what, 1, Integer::sum);
     }
 
+    /** A chain of old things, more than the log can hold. */
+    private void crop() {
+        for (int k = 0; k < 16; k++) {
+            int made = model.make(1, 1);
+            tell("make(1, 1)", heap.make(1, 1), made);
+            int next = model.rooted(0);
+            tell("put(" + made + ", 0, " + next + ")", heap.put(made, 0, next), model.put(made, 0, next));
+            tell("root(0, " + made + ")", heap.root(0, made), model.root(0, made));
+        }
+        tell("minor()", heap.minor(), model.minor());
+    }
+
     private void run() {
         int w = below(2);
         tell("way(" + w + ")", heap.way(w), model.way(w));
         if (below(4) != 0) tell("open(" + blocks + ")", heap.open(blocks), model.open(blocks));
+        if (writes) crop();
         for (int k = 0; k < STEPS && due.wrong() == 0; k++) {
             work();
             tell("seen()", heap.seen(), model.seen());
