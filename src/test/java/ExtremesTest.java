@@ -7,6 +7,8 @@ public final class ExtremesTest {
     private static final int[] EDGES = {Integer.MIN_VALUE, Integer.MIN_VALUE + 1, -257, -64, -2, -1, 0, 1, 2, 9, 10, 11,
         12, 23, 24, 25, 63, 64, 65, 255, 256, 257, 511, 512, 1535, 1536, Integer.MAX_VALUE - 1, Integer.MAX_VALUE};
     private static final int KINDS = 21;
+    /** A state takes up to 165 calls, a row 29; an object has but 512. */
+    private static final int ROWS_OF_ONE = 11;
 
     private static int call(StickyHeap h, int kind, int a, int b, int c) {
         switch (kind) {
@@ -68,13 +70,11 @@ public final class ExtremesTest {
                 StickyHeap h = state(s);
                 int used = 0;
                 for (int[] row : rows) {
-                    if (++used % 100 == 0) h = state(s);
-                    long before = h.digest();
-                    int seen = h.seen();
+                    if (++used % ROWS_OF_ONE == 0) h = state(s);
+                    String before = Told.of(h);
                     int answer = call(h, kind, row[0], row[1], row[2]);
                     if (!refused(answer, kind) || kind == KINDS - 1 && answer == StickyHeap.FULL) continue;
-                    due.is("digest() behind a refused call of kind " + kind, h.digest(), before);
-                    due.is("seen() behind a refused call of kind " + kind, h.seen(), seen);
+                    due.same("a refused call of kind " + kind, Told.of(h), before);
                 }
             }
         }
