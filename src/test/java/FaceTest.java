@@ -4,6 +4,8 @@ import java.lang.reflect.Method;
 import java.lang.reflect.Modifier;
 import java.nio.file.Files;
 import java.nio.file.Path;
+import java.util.ArrayList;
+import java.util.List;
 import java.util.Set;
 import java.util.TreeSet;
 import java.util.regex.Matcher;
@@ -65,12 +67,28 @@ public final class FaceTest {
 
     private static void words(String file) throws Exception {
         String code = Files.readString(Path.of(file)).replaceAll("(?s)/\\*.*?\\*/", " ").replaceAll("//[^\n]*", " ");
-        Matcher barred = Pattern.compile("\\b(throw|throws|try|catch|finally|synchronized|assert|package)\\b|->|::").matcher(code);
+        Matcher barred = Pattern.compile("\\b(throw|throws|try|catch|finally|synchronized|assert|package|import)\\b|->|::"
+            + "|\\bstatic\\s*\\{").matcher(code);
         due.holds("none of the words that LANGUAGE.md rules out", !barred.find());
+    }
+
+    private static void sizes() {
+        List<Class<?>> all = new ArrayList<>(List.of(StickyHeap.class));
+        all.addAll(List.of(StickyHeap.class.getDeclaredClasses()));
+        due.holds("at most twelve classes", all.size() <= 12);
+        for (Class<?> one : all) {
+            int fields = 0;
+            for (Field f : one.getDeclaredFields()) if (!Modifier.isStatic(f.getModifiers())) fields++;
+            due.holds(one + " has at most twenty fields", fields <= 20);
+            for (Method m : one.getDeclaredMethods()) {
+                due.holds(m + " has at most seven parameters", m.getParameterCount() <= 7);
+            }
+        }
     }
 
     public static void main(String[] args) throws Exception {
         members();
+        sizes();
         constants();
         words(args[0]);
         due.end();

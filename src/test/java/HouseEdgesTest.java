@@ -65,6 +65,26 @@ public final class HouseEdgesTest {
         }
     }
 
+    /** SEEN is not among what stays, by whichever call it came. */
+    private static void seenAnew() {
+        due.sentence("All begins anew, as at first / SEEN; 0 at first");
+        for (int by = 0; by < 3; by++) {
+            StickyHeap h = new StickyHeap();
+            h.make(0, 1);
+            h.set(0, 0, -7);
+            h.push(-7);
+            if (by == 0) h.get(0, 0);
+            if (by == 1) h.pop();
+            if (by == 2) h.top(0);
+            due.is("seen()", h.seen(), -7);
+            due.is("open(0)", h.open(0), Told.OUTSIDE);
+            due.is("open(25)", h.open(25), Told.OUTSIDE);
+            due.is("seen() behind a refused open()", h.seen(), -7);
+            due.is("open(8)", h.open(8), 1);
+            due.is("seen() behind open()", h.seen(), 0);
+        }
+    }
+
     /** A heap grows again over what a smaller one did not have. */
     private static void growsAgain() {
         due.sentence("All begins anew .. with b BLOCKS (fewer, then more)");
@@ -176,6 +196,23 @@ public final class HouseEdgesTest {
         due.is("way(0) behind open()", h.way(0), 1);
     }
 
+    private static void wayAlready() {
+        due.sentence("STATE: there are THINGS (w is the WAY already)");
+        for (int w = 0; w < 2; w++) {
+            StickyHeap h = new StickyHeap();
+            h.way(w);
+            due.is("way(" + w + ") again without a thing", h.way(w), w);
+            h.make(1, 0);
+            String before = Told.of(h);
+            due.is("way(" + w + ") again with a thing", h.way(w), Told.STATE);
+            due.is("way(" + (1 - w) + ") with a thing", h.way(1 - w), Told.STATE);
+            due.is("way(2) with a thing: OUTSIDE comes first", h.way(2), Told.OUTSIDE);
+            due.same("a refused way()", Told.of(h), before);
+            h.full();
+            due.is("way(" + w + ") when none is left", h.way(w), w);
+        }
+    }
+
     private static void autos() {
         due.sentence("AUTO, or not: what it was (1, 0)");
         StickyHeap h = Told.heap(1);
@@ -193,12 +230,14 @@ public final class HouseEdgesTest {
         newObject();
         blocks();
         anew();
+        seenAnew();
         growsAgain();
         howMany();
         everStays();
         openOutside();
         ways();
         wayOutside();
+        wayAlready();
         autos();
         due.end();
     }

@@ -138,6 +138,26 @@ public final class TellingEdgesTest {
         due.is("room(5)", h.room(5), 0);
     }
 
+    /** A barred block counts in the room of every class, and as many things can indeed be made without a collection. */
+    private static void roomIsWhatCanBeMade() {
+        due.sentence("How many THINGS of a CLASS (5: LARGE) could be made now .. BARRED BLOCKS not minded");
+        for (int c = 0; c < 6; c++) {
+            StickyHeap h = Told.heap(3);
+            h.push(64);
+            h.push(-1);
+            h.minor();
+            due.is("room(" + c + ") with AUTO", h.room(c), 3 * CELLS[c]);
+            h.auto(false);
+            for (int k = 3 * CELLS[c]; k > 0; k--) {
+                due.is("room(" + c + ")", h.room(c), k);
+                due.holds("make(0, " + LEAST_SIZES[c] + ")", h.make(0, LEAST_SIZES[c]) >= 0);
+            }
+            due.is("room(" + c + ") at last", h.room(c), 0);
+            due.is("make(0, " + LEAST_SIZES[c] + ") at last", h.make(0, LEAST_SIZES[c]), Told.FULL);
+            due.is("no collection but the first", h.count(9) + h.count(10), 1);
+        }
+    }
+
     private static void roomRefused() {
         due.sentence("room: OUTSIDE");
         StickyHeap h = mixed();
@@ -285,6 +305,7 @@ public final class TellingEdgesTest {
         rooms();
         roomChangesNothing();
         roomWithBars();
+        roomIsWhatCanBeMade();
         roomRefused();
         counts();
         countsOfTheLog();
